@@ -329,6 +329,7 @@ public final class EditedSumsPromises {
         }
         due("12 value of 60 OPENs", x.value(0, 60), 0);
         due("16 best of 60 OPENs", x.best(0), 0);
+        due("17 partner(0) of 60 OPENs", x.partner(0), -2);
         due("18 depth of 60 OPENs", x.depth(0, 60), 60);
     }
 
@@ -410,6 +411,8 @@ public final class EditedSumsPromises {
         x = text("( ( )");
         due("17 partner(0) of none left", x.partner(0), -2);
         due("17 partner(1)", x.partner(1), 2);
+        x.delete(2, 3);
+        due("17 partner(1), its CLOSE taken out", x.partner(1), -2);
     }
 
     private static void promise18Depth() {
